@@ -1,8 +1,8 @@
 /**
  * A stemma of copies: readings told by a text, trees of the copies, and how often readings change on them.
  *
- * The promises that are named below stand in DOC.md. No call makes an object: all rows are made with the
- * object and used again.
+ * What each call answers is promised in DOC.md. No call makes an object: all rows are made with this one and
+ * used again, since nothing is ever given back of the room that all calls share.
  */
 public final class StemmaTree {
     public static final int BAD = -1, STATE = -2, FULL = -3, NONE = -9;
@@ -566,7 +566,7 @@ public final class StemmaTree {
         return true;
     }
 
-    /** Numbers in a row; the only place where an array is used, so that each index is tested. */
+    /** Numbers in a row. But for TREES no array is used outside of it, so that each index is tested here. */
     private static final class Row {
         private final int[] cells;
 

@@ -117,6 +117,10 @@ public final class PromiseTest {
         Check.type(y, "ma;ma;ma;ma;ma;ma;");
         y.copies();
         due("4 THE TREE is 0", y.count(3), 0);
+        due("4 changes of those", y.best(0), 0);
+        Check.type(y, "ma;mb;");
+        y.copies();
+        due("4 changes are counted anew", y.best(0), 1);
     }
 
     private static void promise4Faults() {
@@ -207,6 +211,7 @@ public final class PromiseTest {
         due("8 bettered", x.betters(), 1);
         due("8 none is better", x.betters(), STATE);
         due("8 one is known", x.count(9), 1);
+        due("8 the last edge", Check.told("ma;ma;mb;mb;").betters(), 2);
         StemmaTree three = Check.told("ma;mb;mc;");
         due("8 three copies", three.betters(), STATE);
         StemmaTree none = new StemmaTree();
@@ -253,6 +258,10 @@ public final class PromiseTest {
         due("9 reads", x.undo(), 0);
         due("9 as told", x.reading(1, 1), 1);
         due("9 no more", x.undo(), STATE);
+        due("9 changes", x.best(0), 2);
+        x.reads(0, 0, 3);
+        due("9 more changes", x.best(0), 3);
+        x.undo();
         due("9 changes are counted anew", x.best(0), 2);
         for (int i = 0; i < 12; i++) {
             x.reads(0, 0, i % 2 == 0 ? 2 : 3);
@@ -263,6 +272,34 @@ public final class PromiseTest {
         }
         due("9 older ones are lost", x.undo(), STATE);
         due("9 as of the second", x.reading(0, 0), 3);
+        olderOnesAreLostInTheirOrder();
+    }
+
+    private static void olderOnesAreLostInTheirOrder() {
+        StemmaTree x = Check.told("maaaa;mbbbb;mcccc;mdddd;");
+        x.chooses(1);
+        x.reads(0, 0, 4);
+        for (int place = 0; place < 4; place++) {
+            x.reads(1, place, 4);
+            x.reads(2, place, 4);
+        }
+        x.chooses(2);
+        x.reads(3, 3, 0);
+        due("9 ten of twelve", x.count(9), 10);
+        due("9 the latest", x.undo(), 9);
+        due("9 read back", x.reading(3, 3), 3);
+        due("9 the one ahead of it", x.undo(), 8);
+        due("9 THE TREE back", x.count(3), 1);
+        for (int place = 3; place >= 0; place--) {
+            x.undo();
+            due("9 copy 2 at " + place, x.reading(2, place), 2);
+            due("9 copy 1 is lost yet at " + place, x.reading(1, place), NONE);
+            x.undo();
+            due("9 copy 1 at " + place, x.reading(1, place), 1);
+        }
+        due("9 two are lost", x.undo(), STATE);
+        due("9 the second stands", x.reading(0, 0), NONE);
+        due("9 the first stands", x.count(3), 1);
     }
 
     private static void promise10() {
@@ -375,6 +412,7 @@ public final class PromiseTest {
         due("14 proved", y.best(3), 1);
         due("14 none told", Check.told("m?;m?;").best(2), 0);
         due("14 four told", Check.told("ma;mb;mc;md;").best(2), 3);
+        due("14 no changes", Check.told("mab;mab;mab;").best(0), 0);
         due("14 like ones", Check.told("ma;ma;ma;ma;ma;ma;").best(1), 105);
     }
 
@@ -409,6 +447,8 @@ public final class PromiseTest {
         due("16 a copy that tells one", x.quarrel(0, 1), 0);
         due("16 higher readings", Check.told("mcb;mcd;mdb;mdd;maa;").quarrel(0, 1), 1);
         due("16 unlike twos", Check.told("mab;mac;mbb;mbd;").quarrel(0, 1), 0);
+        due("16 the first way is missing", Check.told("mab;mba;mbb;").quarrel(0, 1), 0);
+        due("16 a lost one makes no way", Check.told("maa;mab;mbb;ma?;m?a;").quarrel(0, 1), 0);
         due("16 lost ones are no kind", Check.told("ma?;mab;mb?;mbb;").quarrel(0, 1), 0);
     }
 
@@ -447,6 +487,18 @@ public final class PromiseTest {
         StemmaTree swapped = Check.told("maabb;mbbbb;maaaa;");
         due("18 p is the later one", swapped.mixed(0, 1), 2);
         due("18 q is the earlier one", swapped.mixed(0, 2), 1);
+        StemmaTree around = Check.told("mddbb;maabb;maacc;mdddd;");
+        due("18 unlikes of the second copy", around.mixed(1, 0), 0);
+        due("18 p stands behind it", around.mixed(1, 1), 2);
+        due("18 q stands ahead of it", around.mixed(1, 2), 0);
+        due("18 plain by the first copy", Check.told("maa;mab;mbc;").mixed(1, 4), 1);
+        StemmaTree pair = Check.told("mab;mac;mdb;");
+        due("18 two places", pair.mixed(0, 0), 0);
+        due("18 c at two places", pair.mixed(0, 3), 1);
+        StemmaTree odd = Check.told("maaaaaaaa;mbbbbbbbb;mcccccccc;");
+        due("18 unlike everywhere", odd.mixed(0, 0), 8);
+        due("18 p, unlike everywhere", odd.mixed(2, 1), 0);
+        due("18 q, unlike everywhere", odd.mixed(2, 2), 1);
         StemmaTree two = Check.told("maaa;mabb;");
         StemmaTree narrow = Check.told("ma;mb;mb;");
         StemmaTree one = Check.told("mab;");
@@ -529,6 +581,7 @@ public final class PromiseTest {
         x.sees(3);
         due("22 the other", x.keep(1), 4);
         due("22 keeping leaves what may be undone", x.count(9), 2);
+        due("22 trees as things are", x.best(1), 3);
         Check.type(x, "ma");
         due("23 back", x.back(0), 4);
         due("23 reading", x.reading(1, 0), 1);
