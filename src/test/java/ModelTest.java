@@ -99,7 +99,7 @@ public final class ModelTest {
         if (position == 0 && name.equals("type")) {
             return pending.isEmpty() ? random.nextInt(300) - 20 : pending.poll();
         }
-        if (position == 0 && random.nextInt(60) == 0) {
+        if (random.nextInt(60) == 0) {
             return random.nextBoolean() ? Integer.MIN_VALUE : Integer.MAX_VALUE;
         }
         int most = most(name, position);
