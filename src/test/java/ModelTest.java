@@ -33,7 +33,7 @@ public final class ModelTest {
         for (int i = 0; i < CALLS_A_RUN && check.wrong() == 0; i++) {
             String name = nextCall();
             int a = argument(name, 0), b = argument(name, 1), c = argument(name, 2);
-            int got = call(name, a, b, c);
+            int got = Calls.call(x, name, a, b, c);
             String row = name + "(" + a + ", " + b + ", " + c + ")";
             log.add(row + " -> " + got);
             check.due("seed " + seed + " call " + i + " " + row, got, model.call(name, a, b, c));
@@ -121,35 +121,6 @@ public final class ModelTest {
             case "keep0": case "back0": return 2;
             case "count0": return 10;
             default: return 1;
-        }
-    }
-
-    private int call(String name, int a, int b, int c) {
-        switch (name) {
-            case "type": return x.type(a);
-            case "clear": return x.clear();
-            case "copies": return x.copies();
-            case "reading": return x.reading(a, b);
-            case "reads": return x.reads(a, b, c);
-            case "chooses": return x.chooses(a);
-            case "betters": return x.betters();
-            case "undo": return x.undo();
-            case "changes": return x.changes(a, b);
-            case "directed": return x.directed(a, b);
-            case "root": return x.root(a);
-            case "rank": return x.rank(a);
-            case "best": return x.best(a);
-            case "fitting": return x.fitting(a, b);
-            case "quarrel": return x.quarrel(a, b);
-            case "shared": return x.shared(a, b);
-            case "mixed": return x.mixed(a, b);
-            case "sees": return x.sees(a);
-            case "forget": return x.forget();
-            case "unseen": return x.unseen();
-            case "keep": return x.keep(a);
-            case "back": return x.back(a);
-            case "count": return x.count(a);
-            default: throw new IllegalArgumentException(name);
         }
     }
 }

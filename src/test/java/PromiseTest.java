@@ -225,18 +225,23 @@ public final class PromiseTest {
 
     /** A tree that differs by two hangings is never taken, a like one with a lower number is. */
     private static void lowestOfSeveralIsBetter() {
-        StemmaTree x = Check.told("maab;mbba;maab;mbba;mabb;mbaa;");
+        String text = "maab;mbba;maab;mbba;mabb;mbaa;";
+        int[] changes = new int[105];
+        StemmaTree asked = Check.told(text);
         for (int tree = 0; tree < 105; tree++) {
-            x.chooses(tree);
+            changes[tree] = asked.changes(tree, -1);
+        }
+        for (int tree = 0; tree < 105; tree++) {
             int best = tree;
             for (int other = 104; other >= 0; other--) {
                 int unlike = (other % 3 != tree % 3 ? 1 : 0) + (other / 3 % 5 != tree / 3 % 5 ? 1 : 0)
                         + (other / 15 != tree / 15 ? 1 : 0);
-                if (unlike == 1 && x.changes(other, -1) < x.changes(tree, -1)
-                        && x.changes(other, -1) <= x.changes(best, -1)) {
+                if (unlike == 1 && changes[other] < changes[tree] && changes[other] <= changes[best]) {
                     best = other;
                 }
             }
+            StemmaTree x = Check.told(text);
+            x.chooses(tree);
             due("8 of " + tree, x.betters(), best == tree ? STATE : best);
             due("8 THE TREE of " + tree, x.count(3), best);
         }
