@@ -9,6 +9,7 @@ public final class ReadingEdgeTest {
         fittingGoesByTheTree();
         fittingOfWhatIsNotThere();
         quarrelInAllFourWays();
+        quarrelOfAnyTwoReadings();
         quarrelOfCopiesThatTellBoth();
         quarrelOfTheSamePlace();
         sharedWithItself();
@@ -102,6 +103,21 @@ public final class ReadingEdgeTest {
         due("five ways, but no four of two and two", Check.told("maa;mab;mbb;mbc;mcc;").quarrel(0, 1), 0);
         due("six ways around", Check.told("maa;mab;mbb;mbc;mcc;mca;").quarrel(0, 1), 0);
         due("no copies' way but one", Check.told("maa;").quarrel(0, 1), 0);
+    }
+
+    /** "some two READINGS of the one, some two of the other": whichever they are, the lowest and the highest, too */
+    private static void quarrelOfAnyTwoReadings() {
+        for (int twos = 0; twos < 256; twos++) {
+            char r = letter(twos & 3), s = letter(twos >> 2 & 3), t = letter(twos >> 4 & 3), u = letter(twos >> 6);
+            String three = "m" + r + t + ";m" + r + u + ";m" + s + t + ";";
+            int want = r != s && t != u ? 1 : 0;
+            due("quarrel of " + r + s + " and " + t + u, Check.told(three + "m" + s + u + ";").quarrel(0, 1), want);
+            due("three ways of " + r + s + " and " + t + u, Check.told(three).quarrel(0, 1), 0);
+        }
+    }
+
+    private static char letter(int reading) {
+        return (char) ('a' + reading);
     }
 
     /** "told by COPIES (that tell both)" */

@@ -23,6 +23,7 @@ public final class TextEdgeTest {
         anEmptyTextTellsOfNoCopies();
         aFaultChangesNothing();
         readAnew();
+        the512thCall();
         CHECK.end();
     }
 
@@ -336,5 +337,21 @@ public final class TextEdgeTest {
         x.copies();
         due("fewer copies", x.reading(1, 0), BAD);
         due("fewer places", x.reading(0, 1), BAD);
+    }
+
+    /** "An object is used for at most 512 calls after it has been made": the last ones are answered as the first ones */
+    private static void the512thCall() {
+        StemmaTree x = Check.told(WIDE.repeat(6));
+        for (int call = 62; call < 512; call += 2) {
+            int reading = call % 4 == 2 ? 4 : 0;
+            due("reads, call " + call, x.reads(0, 0, reading), 4 - reading);
+            due("best, call " + (call + 1), x.best(1), 105);
+        }
+        due("the last call", x.count(9), 10);
+        StemmaTree y = new StemmaTree();
+        for (int call = 1; call < 512; call++) {
+            due("type, call " + call, y.type('m'), call <= 90 ? call : FULL);
+        }
+        due("the last fault", y.copies(), -11);
     }
 }
