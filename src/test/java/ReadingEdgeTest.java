@@ -314,6 +314,12 @@ public final class ReadingEdgeTest {
         x.forget();
         x.sees(1);
         due("a lost one is none of them", x.unseen(), 5);
+        StemmaTree four = Check.told("ma;mb;mc;md;");
+        four.sees(2);
+        due("another of the four", four.unseen(), 15);
+        four.forget();
+        four.sees(3);
+        due("there is no fifth reading", four.unseen(), 0);
         StemmaTree odd = Check.told("ma;ma;md;");
         odd.sees(0);
         due("the odd one with the others' reading", odd.unseen(), 4);

@@ -98,16 +98,16 @@ public final class RefusedTest {
     /** All that can be asked, each list by objects of its own, so that none has more than 512 calls. */
     private static List<int[]> answers(State state, Consumer<StemmaTree> first) {
         List<Function<StemmaTree, int[]>> probes = new ArrayList<>();
-        probes.add(RefusedTest::counts);
-        probes.add(RefusedTest::readings);
-        probes.add(RefusedTest::questions);
+        probes.add(Asked::counts);
+        probes.add(Asked::readings);
+        probes.add(Asked::questions);
         for (int copy = 0; copy < 6; copy++) {
             int one = copy;
             probes.add(x -> undone(x, one));
         }
-        probes.add(x -> readingsOf(x, x.back(0)));
-        probes.add(x -> readingsOf(x, x.back(1)));
-        probes.add(x -> readingsOf(x, x.copies()));
+        probes.add(x -> Asked.readingsOf(x, x.back(0)));
+        probes.add(x -> Asked.readingsOf(x, x.back(1)));
+        probes.add(x -> Asked.readingsOf(x, x.copies()));
         probes.add(RefusedTest::textGoesOn);
         List<int[]> answers = new ArrayList<>();
         for (Function<StemmaTree, int[]> probe : probes) {
@@ -115,47 +115,6 @@ public final class RefusedTest {
             first.accept(x);
             answers.add(probe.apply(x));
         }
-        return answers;
-    }
-
-    private static int[] counts(StemmaTree x) {
-        int[] answers = new int[10];
-        for (int what = 0; what < 10; what++) {
-            answers[what] = x.count(what);
-        }
-        return answers;
-    }
-
-    private static int[] readings(StemmaTree x) {
-        return readingsOf(x, 0);
-    }
-
-    private static int[] readingsOf(StemmaTree x, int answer) {
-        int[] answers = new int[50];
-        answers[48] = answer;
-        answers[49] = x.count(3);
-        for (int i = 0; i < 48; i++) {
-            answers[i] = x.reading(i / 8, i % 8);
-        }
-        return answers;
-    }
-
-    private static int[] questions(StemmaTree x) {
-        int[] answers = new int[160];
-        int n = 0;
-        answers[n++] = x.unseen();
-        for (int k = 0; k < 105; k++) {
-            answers[n++] = x.rank(k);
-        }
-        for (int i = 0; i < 6; i++) {
-            answers[n++] = x.best(i);
-            answers[n++] = x.mixed(i, 0);
-            answers[n++] = x.shared(0, i);
-            answers[n++] = x.fitting(i, i);
-            answers[n++] = x.directed(x.count(3), i);
-            answers[n++] = x.changes(x.count(3), i);
-        }
-        answers[n] = x.root(x.count(3));
         return answers;
     }
 

@@ -23,6 +23,7 @@ public final class TextEdgeTest {
         anEmptyTextTellsOfNoCopies();
         aFaultChangesNothing();
         readAnew();
+        readAnewWithFewerCopies();
         the512thCall();
         CHECK.end();
     }
@@ -337,6 +338,31 @@ public final class TextEdgeTest {
         x.copies();
         due("fewer copies", x.reading(1, 0), BAD);
         due("fewer places", x.reading(0, 1), BAD);
+    }
+
+    /** The same, where the trees had more edges ahead: nothing of those is left */
+    private static void readAnewWithFewerCopies() {
+        StemmaTree x = Check.told("ma;mb;mc;md;ma;mb;");
+        due("six copies", x.changes(104, -1), 4);
+        Check.type(x, "ma;ma;mb;mb;");
+        x.copies();
+        due("four copies, tree 0", x.changes(0, -1), 2);
+        due("four copies, tree 2", x.changes(2, -1), 1);
+        due("four copies, directed", x.directed(2, 0), 1);
+        Check.type(x, "md;ma;");
+        x.copies();
+        due("two copies", x.changes(0, -1), 1);
+        Check.type(x, "m?;");
+        x.copies();
+        due("one copy", x.changes(0, -1), 0);
+        due("one copy, at its place", x.changes(0, 0), 0);
+        due("one copy, fitting", x.fitting(0, 0), 15);
+        due("one copy, no root", x.root(0), NONE);
+        due("one copy, fewest", x.best(0), 0);
+        x.copies();
+        due("no copies", x.changes(0, -1), 0);
+        due("no copies, fewest", x.best(0), 0);
+        due("no copies, none unseen", x.unseen(), 0);
     }
 
     /** "An object is used for at most 512 calls after it has been made": the last ones are answered as the first ones */

@@ -18,6 +18,8 @@ public final class TreeEdgeTest {
         boundWithNothingTold();
         boundThatIsTheFewest();
         directedCosts();
+        directedOfFourUnlikeOnes();
+        directedAtEightPlaces();
         bothHalvesOfTheRootsEdge();
         rootOfSeveralTheLowest();
         rootWithoutAnEdge();
@@ -230,6 +232,39 @@ public final class TreeEdgeTest {
         due("down, since up would be four times", Check.told("mb;mb;mb;mb;ma;").directed(0, 1), 2);
         due("places together", Check.told("mab;mbb;mba;").directed(0, 0), 3);
         due("no places told", Check.told("m??;m??;m??;").directed(0, 0), 0);
+    }
+
+    /** The same: with the lowest one at the root and all knots, each other one is reached by one step up, wherever it is */
+    private static void directedOfFourUnlikeOnes() {
+        for (int code = 0; code < 256; code++) {
+            int[] r = {code & 3, code >> 2 & 3, code >> 4 & 3, code >> 6};
+            if ((1 << r[0] | 1 << r[1] | 1 << r[2] | 1 << r[3]) != 15) {
+                continue;
+            }
+            StringBuilder text = new StringBuilder();
+            for (int reading : r) {
+                text.append('m').append((char) ('a' + reading)).append(';');
+            }
+            StemmaTree x = Check.told(text.toString());
+            for (int i = 0; i < 15; i++) {
+                due("directed(" + i / 5 + ", " + i % 5 + ") of " + text, x.directed(i / 5, i % 5), 3);
+            }
+        }
+    }
+
+    /** "the least cost, all PLACES together": each of eight is counted once, the first and the last, too */
+    private static void directedAtEightPlaces() {
+        for (int odd = 0; odd < 8; odd++) {
+            String unlike = "m" + "a".repeat(odd) + "b" + "a".repeat(7 - odd) + ";";
+            StemmaTree x = Check.told("maaaaaaaa;maaaaaaaa;" + unlike);
+            due("root on the odd one's edge, " + odd, x.directed(0, 2), 1);
+            due("root elsewhere, " + odd, x.directed(0, 0), 1);
+            due("changes, " + odd, x.changes(0, -1), 1);
+        }
+        StemmaTree all = Check.told("maaaaaaaa;mbbbbbbbb;mcccccccc;");
+        for (int edge = 0; edge < 3; edge++) {
+            due("all eight unlike, " + edge, all.directed(0, edge), 16);
+        }
     }
 
     /** "an EDGE (both halves of that with THE ROOT, too)" */
