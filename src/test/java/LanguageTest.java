@@ -24,6 +24,7 @@ public final class LanguageTest {
         forbiddenWords(code);
         face();
         nestedClasses();
+        methodsStayShort(source);
         objectsAreMadeWithTheObject(code);
         arraysAreUsedInTestedPlaces(code);
         CHECK.end();
@@ -90,8 +91,24 @@ public final class LanguageTest {
         for (Class<?> one : nested) {
             CHECK.isTrue(one + " is static", Modifier.isStatic(one.getModifiers()));
             CHECK.isTrue(one + " is private", Modifier.isPrivate(one.getModifiers()));
+            CHECK.isTrue(one + " has some twenty fields", one.getDeclaredFields().length <= 20);
             for (Method method : one.getDeclaredMethods()) {
+                CHECK.isTrue(method + " has few parameters", method.getParameterCount() <= 7);
                 CHECK.isTrue(method + " has its own name", !publicNames.contains(method.getName()));
+            }
+        }
+    }
+
+    private static void methodsStayShort(String source) {
+        String[] lines = source.split("\n");
+        for (int i = 0; i < lines.length; i++) {
+            Matcher head = Pattern.compile("( {4}| {8})(?!return|else)\\w[\\w ]*\\([^;]*\\) \\{").matcher(lines[i]);
+            if (head.matches() && !lines[i].contains(" class ")) {
+                int end = i;
+                while (end < lines.length && !lines[end].equals(head.group(1) + "}")) {
+                    end++;
+                }
+                CHECK.isTrue(lines[i].trim() + " is short", end - i <= 60);
             }
         }
     }

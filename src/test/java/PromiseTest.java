@@ -24,9 +24,11 @@ public final class PromiseTest {
         promise16();
         promise17();
         promise18();
-        promise19And20();
+        promise19();
+        promise20();
         promise21();
-        promise22And23();
+        promise22();
+        promise23();
         promise24();
         CHECK.end();
     }
@@ -51,6 +53,22 @@ public final class PromiseTest {
         due("1 reading", x.reading(0, 0), BAD);
         due("1 undo", x.undo(), STATE);
         due("1 back", x.back(0), STATE);
+        due("1 back to the other", x.back(1), STATE);
+        due("1 forget", x.forget(), 0);
+        due("1 clear", x.clear(), 0);
+        due("1 betters", x.betters(), STATE);
+        due("1 it is TREE 0", x.chooses(0), STATE);
+        due("1 there is no TREE 1", x.chooses(1), BAD);
+        due("1 changes", x.changes(0, -1), 0);
+        due("1 no place", x.changes(0, 0), BAD);
+        due("1 no edge", x.directed(0, 0), BAD);
+        due("1 root", x.root(0), NONE);
+        due("1 rank", x.rank(0), 0);
+        due("1 one tree", x.rank(1), NONE);
+        int[] best = {0, 1, 0, 1};
+        for (int what = 0; what < best.length; what++) {
+            due("1 best(" + what + ")", x.best(what), best[what]);
+        }
         due("1 unseen", x.unseen(), 0);
         due("1 fitting", x.fitting(0, 0), BAD);
         due("1 shared", x.shared(0, 0), BAD);
@@ -191,6 +209,14 @@ public final class PromiseTest {
         due("6 changes are counted anew", x.best(0), 0);
         x.reads(0, 0, 0);
         due("6 and once more", x.best(0), 1);
+        StemmaTree wide = Check.told("mabc;mdcb;");
+        due("6 more places than copies", wide.reads(1, 2, 0), 1);
+        due("6 at that place", wide.reading(1, 2), 0);
+        due("6 undone", wide.undo(), 0);
+        due("6 as it was", wide.reading(1, 2), 1);
+        StemmaTree high = Check.told("ma;mb;mc;");
+        due("6 more copies than places", high.reads(2, 0, 4), 2);
+        due("6 of that copy", high.reading(2, 0), NONE);
     }
 
     private static void promise7() {
@@ -434,6 +460,9 @@ public final class PromiseTest {
         due("15 all lost", Check.told("m?;m?;m?;").fitting(1, 0), 15);
         due("15 two copies", Check.told("mc;m?;").fitting(1, 0), 4);
         due("15 three kinds", Check.told("ma;mb;m?;").fitting(2, 0), 3);
+        StemmaTree square = Check.told("ma?;mcb;");
+        due("15 lost at that place", square.fitting(0, 1), 2);
+        due("15 not lost at the other", square.fitting(1, 0), NONE);
         due("15 nothing is changed", x.count(5), 1);
         due("15 nor read", x.reading(3, 0), NONE);
     }
@@ -520,23 +549,45 @@ public final class PromiseTest {
         due("18 all eight unlike", Check.told("maaaaaaaa;mbbbbbbbb;").mixed(0, 4), 8);
     }
 
-    private static void promise19And20() {
+    private static void promise19() {
         StemmaTree x = Check.told("ma;mb;");
-        due("20 nothing", x.forget(), 0);
         due("19 below", x.sees(-1), BAD);
         due("19 above", x.sees(7), BAD);
+        due("19 refused ones are not seen", x.count(7), 0);
         for (int i = 0; i < 6; i++) {
             due("19 sees " + i, x.sees(i == 5 ? 6 : i), i + 1);
         }
         due("19 full", x.sees(0), FULL);
         due("19 BAD ahead of FULL", x.sees(7), BAD);
         due("19 seen", x.count(7), 6);
-        due("20 forget", x.forget(), 6);
-        due("20 nothing is seen", x.count(7), 0);
-        due("20 again", x.forget(), 0);
-        due("19 anew", x.sees(6), 1);
         due("19 is not to be undone", x.undo(), STATE);
         due("19 without copies", new StemmaTree().sees(3), 1);
+        for (int n = 0; n <= 6; n++) {
+            StemmaTree y = Check.told("ma;mb;ma;");
+            y.sees(n);
+            due("19 that n and no other, " + n, y.unseen(), n == 0 ? 2 : n == 1 ? 7 : n == 2 ? 5 : 0);
+        }
+    }
+
+    private static void promise20() {
+        StemmaTree x = Check.told("ma;mb;");
+        due("20 nothing", x.forget(), 0);
+        due("20 nothing to forget changes nothing", x.unseen(), 3);
+        x.sees(0);
+        x.sees(1);
+        due("20 both can't be", x.unseen(), 0);
+        due("20 forget", x.forget(), 2);
+        due("20 nothing is seen", x.count(7), 0);
+        due("20 all may be", x.unseen(), 3);
+        due("20 again", x.forget(), 0);
+        due("20 seen anew", x.sees(0), 1);
+        due("20 by that alone", x.unseen(), 3);
+        for (int i = 1; i < 6; i++) {
+            x.sees(6);
+        }
+        due("20 all six", x.forget(), 6);
+        due("20 there is room again", x.sees(6), 1);
+        due("20 readings stand", x.reading(1, 0), 1);
     }
 
     private static void promise21() {
@@ -571,22 +622,47 @@ public final class PromiseTest {
         due("21 place 0 alone", place.unseen(), 3);
     }
 
-    private static void promise22And23() {
+    private static void promise22() {
         StemmaTree x = Check.told("ma;mb;ma;mb;");
         due("22 below", x.keep(-1), BAD);
         due("22 above", x.keep(2), BAD);
+        due("22 refused ones keep none", x.back(0), STATE);
+        due("22 nor the other", x.back(1), STATE);
+        due("22 keep", x.keep(0), 4);
+        x.reads(1, 0, 4);
+        x.chooses(2);
+        due("22 the other", x.keep(1), 4);
+        due("22 keeping leaves what may be undone", x.count(9), 2);
+        due("22 keeping leaves readings", x.reading(1, 0), NONE);
+        due("22 keeping leaves THE TREE", x.count(3), 2);
+        due("22 trees as things are", x.best(1), 3);
+        x.back(0);
+        due("22 each has its own reading", x.reading(1, 0), 1);
+        due("22 each has its own tree", x.count(3), 0);
+        x.reads(0, 0, 2);
+        due("22 over an old one", x.keep(0), 4);
+        x.reads(0, 0, 1);
+        x.back(0);
+        due("22 the newer one", x.reading(0, 0), 2);
+        x.back(1);
+        due("22 the other is as it was", x.reading(0, 0), 0);
+        due("22 its tree, too", x.count(3), 2);
+        due("22 no copies", new StemmaTree().keep(1), 0);
+        due("22 one copy", Check.told("mabcd;").keep(0), 1);
+    }
+
+    private static void promise23() {
+        StemmaTree x = Check.told("ma;mb;ma;mb;");
         due("23 below", x.back(-1), BAD);
         due("23 above", x.back(2), BAD);
         due("23 none", x.back(0), STATE);
-        due("22 keep", x.keep(0), 4);
+        x.keep(0);
         due("23 the other was not", x.back(1), STATE);
         x.reads(1, 0, 4);
         x.betters();
         x.chooses(2);
         x.sees(3);
-        due("22 the other", x.keep(1), 4);
-        due("22 keeping leaves what may be undone", x.count(9), 2);
-        due("22 trees as things are", x.best(1), 3);
+        x.keep(1);
         Check.type(x, "ma");
         due("23 back", x.back(0), 4);
         due("23 reading", x.reading(1, 0), 1);
@@ -594,7 +670,7 @@ public final class PromiseTest {
         due("23 nothing can be undone", x.undo(), STATE);
         due("23 seen is as it was", x.count(7), 1);
         due("23 the text is as it was", x.count(8), 2);
-        due("23 changes are counted anew", x.best(0), 1);
+        due("23 changes are counted anew", x.best(1), 1);
         due("23 the other", x.back(1), 4);
         due("23 lost", x.reading(1, 0), NONE);
         due("23 THE TREE of the other", x.count(3), 2);
@@ -602,13 +678,12 @@ public final class PromiseTest {
         x.reads(0, 0, 3);
         due("23 as often as one likes", x.back(1), 4);
         due("23 an image doesn't change", x.reading(0, 0), 0);
-        x.reads(0, 0, 2);
-        due("22 over an old one", x.keep(0), 4);
-        x.reads(0, 0, 1);
-        x.back(0);
-        due("23 the newer one", x.reading(0, 0), 2);
+        x.reads(0, 0, 3);
+        due("23 a refused one", x.back(2), BAD);
+        due("23 leaves readings", x.reading(0, 0), 3);
+        due("23 leaves what may be undone", x.undo(), 0);
         StemmaTree none = new StemmaTree();
-        due("22 no copies", none.keep(1), 0);
+        none.keep(1);
         due("23 no copies", none.back(1), 0);
     }
 
